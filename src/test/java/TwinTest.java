@@ -35,7 +35,9 @@ public final class TwinTest {
     private TwinTest(long start) {
         random = new Random(start);
         for (Method m : LostBeforeSung.class.getDeclaredMethods()) {
-            own.put(m.getName(), m);
+            if (java.lang.reflect.Modifier.isPublic(m.getModifiers())) {
+                own.put(m.getName(), m);
+            }
         }
         for (String line : METHODS) {
             String name = line.split(" ")[0];
@@ -56,8 +58,10 @@ public final class TwinTest {
             test.run();
             all += test.calls;
         }
-        System.out.println(test.wrong == 0 ? runs + " runs, " + all + " calls alike" : "not alike");
-        if (test.wrong != 0 || test.twins.size() != 54) {
+        boolean everyMethod = test.twins.keySet().containsAll(test.own.keySet());
+        System.out.println(!everyMethod ? "not every method is called"
+            : test.wrong == 0 ? runs + " runs, " + all + " calls alike" : "not alike");
+        if (test.wrong != 0 || !everyMethod) {
             System.exit(1);
         }
     }
@@ -292,7 +296,7 @@ public final class TwinTest {
         }
     }
 
-    /** Behind the last call of a run: asks on, one object may be asked 512 times, so a fresh count is not due. */
+    /** Asked behind the 512th call, where nothing is promised any more, but the class goes on as before. */
     private void wholeState() throws Exception {
         for (int p = 0; p < twin.w.people.size(); p++) {
             for (int what = 0; what < 7; what++) {
