@@ -60,8 +60,8 @@ public final class LostBeforeSung {
     private final Isle now = new Isle();
     private final Isle kept = new Isle();
     private final Isle draft = new Isle();
-    private final Outlook outlook = new Outlook(now);
-    private final Tunes tunes = new Tunes(now);
+    private final Outlook outlook = new Outlook();
+    private final Tunes tunes = new Tunes();
     private final Reader reader = new Reader();
     private final Shelf[] shelves = new Shelf[SHELF_ROOM];
     private final int[] refusals = new int[REFUSAL_SORTS];
@@ -320,7 +320,7 @@ public final class LostBeforeSung {
             case 3:
                 return now.havers(song);
             case 4:
-                return tunes.asDigits(song);
+                return tunes.asDigits(now, song);
             default:
                 return refuse(BAD);
         }
@@ -391,50 +391,50 @@ public final class LostBeforeSung {
         if (noSong(song) || outside(n, FAR + 1) || outside(what, 3)) {
             return refuse(BAD);
         }
-        Isle then = outlook.after(n);
+        Isle then = outlook.after(now, n);
         return what == 0 ? then.havers(song) : what == 1 ? then.state[song] : then.knownSongs();
     }
 
     public int lostIn(int song) {
-        return noSong(song) ? refuse(BAD) : noneIfNever(outlook.lossIn(song));
+        return noSong(song) ? refuse(BAD) : noneIfNever(outlook.lossIn(now, song));
     }
 
     public int sungIn(int song) {
-        return noSong(song) ? refuse(BAD) : noneIfNever(outlook.findIn(song));
+        return noSong(song) ? refuse(BAD) : noneIfNever(outlook.findIn(now, song));
     }
 
     public int last(int song) {
-        return noSong(song) ? refuse(BAD) : outlook.lastHavers(song);
+        return noSong(song) ? refuse(BAD) : outlook.lastHavers(now, song);
     }
 
     public int keep(int song) {
-        return noSong(song) ? refuse(BAD) : outlook.neededAtTable(song);
+        return noSong(song) ? refuse(BAD) : outlook.neededAtTable(now, song);
     }
 
     public int workFor(int song, int n) {
         if (noSong(song) || outside(n, FAR + 1)) {
             return refuse(BAD);
         }
-        return outlook.leastWork(song, n);
+        return outlook.leastWork(now, song, n);
     }
 
     public int teach(int song, int k) {
         if (noSong(song) || outside(k, PEOPLE_ROOM + 1)) {
             return refuse(BAD);
         }
-        return outlook.worstPupils(song, k);
+        return outlook.worstPupils(now, song, k);
     }
 
     public int hummer(int song) {
-        return noSong(song) ? refuse(BAD) : outlook.bestHummer(song);
+        return noSong(song) ? refuse(BAD) : outlook.bestHummer(now, song);
     }
 
     public int next() {
-        return outlook.nextLost();
+        return outlook.nextLost(now);
     }
 
     public int order(int i) {
-        return noSong(i) ? refuse(BAD) : outlook.inOrder(i);
+        return noSong(i) ? refuse(BAD) : outlook.inOrder(now, i);
     }
 
     public int fits(int s, int n, int person, int what) {
@@ -446,7 +446,7 @@ public final class LostBeforeSung {
         if (refusal != 0) {
             return refuse(refusal);
         }
-        return what == 0 ? outlook.memoriesBy(told, n, person) : outlook.kindsBy(told, n, person);
+        return what == 0 ? outlook.memoriesBy(now, told, n, person) : outlook.kindsBy(now, told, n, person);
     }
 
     public int griefs(int person, int song, int n) {
@@ -456,14 +456,14 @@ public final class LostBeforeSung {
         if (now.heldFor(person, song) == NONE) {
             return refuse(STUCK);
         }
-        return outlook.leastGrief(person, song, n);
+        return outlook.leastGrief(now, person, song, n);
     }
 
     public int forgets(int person, int song) {
         if (noPerson(person) || noSong(song)) {
             return refuse(BAD);
         }
-        return noneIfNever(outlook.forgetIn(person, song));
+        return noneIfNever(outlook.forgetIn(now, person, song));
     }
 
     public int judge(int s, int n) {
@@ -472,7 +472,7 @@ public final class LostBeforeSung {
         }
         Shelf told = shelves[s];
         int refusal = told.refusalAsTold(n);
-        return refusal != 0 ? refuse(refusal) : outlook.firstWrong(told, n);
+        return refusal != 0 ? refuse(refusal) : outlook.firstWrong(now, told, n);
     }
 
     // ---- TUNES ----
@@ -481,16 +481,16 @@ public final class LostBeforeSung {
         if (noSong(song) || noSong(other)) {
             return refuse(BAD);
         }
-        tunes.listenToSong(song);
-        return tunes.changesTo(other);
+        tunes.listenToSong(now, song);
+        return tunes.changesTo(now, other);
     }
 
     public int join(int song, int other) {
-        return noSong(song) || noSong(other) ? refuse(BAD) : tunes.joined(song, other);
+        return noSong(song) || noSong(other) ? refuse(BAD) : tunes.joined(now, song, other);
     }
 
     public int like(int song, int other) {
-        return noSong(song) || noSong(other) ? refuse(BAD) : tunes.alike(song, other);
+        return noSong(song) || noSong(other) ? refuse(BAD) : tunes.alike(now, song, other);
     }
 
     public int nearest(int s, int n, int what) {
@@ -505,8 +505,8 @@ public final class LostBeforeSung {
         if (!tunes.listenToRow(told, n)) {
             return refuse(STUCK);
         }
-        int song = tunes.nearestSong();
-        return song == NONE || what == 0 ? song : tunes.changesTo(song);
+        int song = tunes.nearestSong(now);
+        return song == NONE || what == 0 ? song : tunes.changesTo(now, song);
     }
 
     // ---- IN TRUTH ----
@@ -972,15 +972,10 @@ public final class LostBeforeSung {
 
     /** What comes of the isle: every question is tried on a copy, so that nothing of it is changed. */
     private static final class Outlook {
-        private final Isle now;
         private final Isle then = new Isle();
         private final int[] losses = new int[SONG_ROOM];
 
-        private Outlook(Isle now) {
-            this.now = now;
-        }
-
-        private Isle after(int n) {
+        private Isle after(Isle now, int n) {
             then.become(now);
             for (int i = 0; i < n; i++) {
                 then.passYear();
@@ -988,7 +983,7 @@ public final class LostBeforeSung {
             return then;
         }
 
-        private int lossIn(int song) {
+        private int lossIn(Isle now, int song) {
             then.become(now);
             return lossFromThen(song, FAR);
         }
@@ -1004,7 +999,7 @@ public final class LostBeforeSung {
             return NEVER;
         }
 
-        private int findIn(int song) {
+        private int findIn(Isle now, int song) {
             then.become(now);
             for (int n = 0; n <= FAR; n++) {
                 if (then.state[song] == SUNG) {
@@ -1015,7 +1010,7 @@ public final class LostBeforeSung {
             return NEVER;
         }
 
-        private int forgetIn(int person, int song) {
+        private int forgetIn(Isle now, int person, int song) {
             then.become(now);
             for (int n = 0; n <= FAR; n++) {
                 if (then.heldFor(person, song) == NONE) {
@@ -1026,7 +1021,7 @@ public final class LostBeforeSung {
             return NEVER;
         }
 
-        private int lastHavers(int song) {
+        private int lastHavers(Isle now, int song) {
             if (now.state[song] != NEW) {
                 return NONE;
             }
@@ -1041,7 +1036,7 @@ public final class LostBeforeSung {
             return NONE;
         }
 
-        private int neededAtTable(int song) {
+        private int neededAtTable(Isle now, int song) {
             int best = NONE;
             int soonest = NEVER;
             for (int person = 0; person < now.people; person++) {
@@ -1056,7 +1051,7 @@ public final class LostBeforeSung {
             return best;
         }
 
-        private int leastWork(int song, int n) {
+        private int leastWork(Isle now, int song, int n) {
             for (int work = 0; work < LEVELS; work++) {
                 then.become(now);
                 then.work = work;
@@ -1067,7 +1062,7 @@ public final class LostBeforeSung {
             return NONE;
         }
 
-        private int worstPupils(int song, int k) {
+        private int worstPupils(Isle now, int song, int k) {
             int havers = now.havers(song);
             int best = NONE;
             int soonest = NEVER;
@@ -1093,7 +1088,7 @@ public final class LostBeforeSung {
             }
         }
 
-        private int bestHummer(int song) {
+        private int bestHummer(Isle now, int song) {
             int best = NONE;
             int longest = -1;
             for (int person = 0; person < now.people; person++) {
@@ -1110,7 +1105,7 @@ public final class LostBeforeSung {
             return best;
         }
 
-        private int nextLost() {
+        private int nextLost(Isle now) {
             int best = NONE;
             int soonest = NEVER;
             for (int song = 0; song < now.songs; song++) {
@@ -1126,20 +1121,20 @@ public final class LostBeforeSung {
             return best;
         }
 
-        private int inOrder(int place) {
+        private int inOrder(Isle now, int place) {
             for (int song = 0; song < now.songs; song++) {
                 then.become(now);
                 losses[song] = lossFromThen(song, FAR);
             }
             for (int song = 0; song < now.songs; song++) {
-                if (placeOf(song) == place) {
+                if (placeOf(now, song) == place) {
                     return song;
                 }
             }
             return NONE;
         }
 
-        private int placeOf(int song) {
+        private int placeOf(Isle now, int song) {
             int ahead = 0;
             for (int other = 0; other < now.songs; other++) {
                 boolean alikeAhead = losses[other] == losses[song] && other < song;
@@ -1150,7 +1145,7 @@ public final class LostBeforeSung {
             return ahead;
         }
 
-        private int memoriesBy(Shelf told, int n, int person) {
+        private int memoriesBy(Isle now, Shelf told, int n, int person) {
             int bits = 0;
             for (int memory = 0; memory < LEVELS; memory++) {
                 then.become(now);
@@ -1162,7 +1157,7 @@ public final class LostBeforeSung {
             return bits;
         }
 
-        private int kindsBy(Shelf told, int n, int person) {
+        private int kindsBy(Isle now, Shelf told, int n, int person) {
             int bits = 0;
             for (int kind = 0; kind < KINDS; kind++) {
                 then.become(now);
@@ -1184,7 +1179,7 @@ public final class LostBeforeSung {
             return true;
         }
 
-        private int leastGrief(int person, int song, int n) {
+        private int leastGrief(Isle now, int person, int song, int n) {
             for (int grief = 0; grief < LEVELS; grief++) {
                 then.become(now);
                 then.grief[person] = grief;
@@ -1205,7 +1200,7 @@ public final class LostBeforeSung {
             return false;
         }
 
-        private int firstWrong(Shelf told, int n) {
+        private int firstWrong(Isle now, Shelf told, int n) {
             then.become(now);
             for (int i = 0; i < n; i++) {
                 then.passYear();
@@ -1219,16 +1214,11 @@ public final class LostBeforeSung {
 
     /** What TUNES have of one another; one listens to a tune first and asks then. */
     private static final class Tunes {
-        private final Isle now;
         private final int[] heard = new int[NOTES];
         private final int[] costs = new int[NOTES + 1];
         private int heardSize;
 
-        private Tunes(Isle now) {
-            this.now = now;
-        }
-
-        private void listenToSong(int song) {
+        private void listenToSong(Isle now, int song) {
             heardSize = NOTES;
             System.arraycopy(now.tune, song * NOTES, heard, 0, NOTES);
         }
@@ -1247,7 +1237,7 @@ public final class LostBeforeSung {
         }
 
         /** The costs stand for the notes heard so far against each beginning of the song. */
-        private int changesTo(int song) {
+        private int changesTo(Isle now, int song) {
             for (int j = 0; j <= NOTES; j++) {
                 costs[j] = j;
             }
@@ -1264,11 +1254,11 @@ public final class LostBeforeSung {
             return costs[NOTES];
         }
 
-        private int nearestSong() {
+        private int nearestSong(Isle now) {
             int best = NONE;
             int fewest = NOTES + NOTES;
             for (int song = 0; song < now.songs; song++) {
-                int changes = changesTo(song);
+                int changes = changesTo(now, song);
                 if (changes < fewest) {
                     best = song;
                     fewest = changes;
@@ -1277,9 +1267,9 @@ public final class LostBeforeSung {
             return best;
         }
 
-        private int joined(int song, int other) {
+        private int joined(Isle now, int song, int other) {
             for (int own = 0; own < NOTES; own++) {
-                if (endBegins(song, other, own)) {
+                if (endBegins(now, song, other, own)) {
                     return own + NOTES;
                 }
             }
@@ -1287,7 +1277,7 @@ public final class LostBeforeSung {
         }
 
         /** Whether the song from the note own on is how the other one begins. */
-        private boolean endBegins(int song, int other, int own) {
+        private boolean endBegins(Isle now, int song, int other, int own) {
             for (int i = own; i < NOTES; i++) {
                 if (now.tune[song * NOTES + i] != now.tune[other * NOTES + i - own]) {
                     return false;
@@ -1296,7 +1286,7 @@ public final class LostBeforeSung {
             return true;
         }
 
-        private int alike(int song, int other) {
+        private int alike(Isle now, int song, int other) {
             int count = 0;
             for (int i = 0; i < NOTES; i++) {
                 if (now.tune[song * NOTES + i] == now.tune[other * NOTES + i]) {
@@ -1306,7 +1296,7 @@ public final class LostBeforeSung {
             return count;
         }
 
-        private int asDigits(int song) {
+        private int asDigits(Isle now, int song) {
             int digits = 0;
             for (int i = 0; i < NOTES; i++) {
                 digits = digits * 10 + now.tune[song * NOTES + i];

@@ -275,12 +275,34 @@ public final class IsleTest {
         DUE.be("ofKind(1)", x.ofKind(1), 3);
         DUE.be("ofKind(3)", x.ofKind(3), 1);
         DUE.be("ofKind(0), just that KIND", x.ofKind(0), 0);
+        x.knows(0, 3, 0);
+        DUE.be("people(1), not the first", x.people(1), 0);
+        everybodyHasIt();
         int[] bad = {x.songs(4), x.songs(-1), x.people(2), x.people(-1), x.both(0, 0), x.both(0, 4), x.both(4, 0),
             x.both(-1, 0), x.both(0, -1), x.most(2), x.most(-1), x.ofKind(6), x.ofKind(-1)};
         for (int b : bad) {
             DUE.be("bad", b, -2);
         }
         DUE.be("status(12)", x.status(12), bad.length);
+    }
+
+    private static void everybodyHasIt() {
+        LostBeforeSung x = new LostBeforeSung();
+        x.song(0, 0);
+        x.song(0, 0);
+        for (int i = 0; i < 8; i++) {
+            x.person(0, 0, 0, 0);
+            x.knows(i, 0, 0);
+            x.knows(i, 1, 0);
+        }
+        DUE.be("most", x.most(0), 0);
+        DUE.be("fewest", x.most(1), 0);
+        DUE.be("people with none", x.people(0), 0);
+        x.knows(0, 0, -1);
+        DUE.be("most", x.most(0), 1);
+        DUE.be("people with all", x.people(1), 254);
+        x.knows(0, 1, -1);
+        DUE.be("people with none", x.people(0), 1);
     }
 
     private static void tables() {
@@ -298,6 +320,11 @@ public final class IsleTest {
         x.seat(4, 3, 0);
         DUE.be("table(1)", x.table(1), 14);
         DUE.be("table(5)", x.table(5), 240);
+        x.seat(0, 1, 1);
+        x.seat(0, 7, 1);
+        DUE.be("over the first", x.table(3), 255);
+        x.seat(1, 2, 0);
+        DUE.be("over the first", x.table(1), 243);
         DUE.be("table bad", x.table(8), -2);
         DUE.be("table bad", x.table(-1), -2);
     }

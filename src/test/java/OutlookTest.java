@@ -17,6 +17,8 @@ public final class OutlookTest {
         fits();
         griefs();
         judges();
+        sixty();
+        oneOfOthers();
         refused();
         DUE.end();
     }
@@ -359,6 +361,77 @@ public final class OutlookTest {
         x.row(0, 2, 40);
         DUE.be("forty", x.judge(0, 40), 0);
         DUE.be("nothing is changed", x.status(3), 0);
+    }
+
+    /** Two children of HOLD 8 and 6 teach each other till both forget it in the same YEAR. */
+    private static LostBeforeSung twoChildren(int years, int others, int sound) {
+        LostBeforeSung x = new LostBeforeSung();
+        x.person(5, 0, 4, 0);
+        x.person(5, 0, 3, 0);
+        x.song(0, sound);
+        x.seat(0, 1, 1);
+        x.knows(0, 0, years);
+        x.knows(1, 0, others);
+        return x;
+    }
+
+    private static void sixty() {
+        LostBeforeSung x = twoChildren(3, 3, 0);
+        DUE.be("LOST in 60", x.lostIn(0), 60);
+        DUE.be("ahead of 60", x.behind(0, 59, 0), 3);
+        DUE.be("behind 60", x.behind(0, 60, 1), 1);
+        DUE.be("last", x.last(0), 3);
+        DUE.be("forgets", x.forgets(1, 0), 60);
+        DUE.be("workFor 60", x.workFor(0, 60), 0);
+        DUE.be("workFor 59", x.workFor(0, 59), -1);
+        DUE.be("teach 0", x.teach(0, 0), 0);
+        DUE.be("next", x.next(), 0);
+        DUE.be("griefs 59", x.griefs(0, 0, 59), 1);
+        DUE.be("griefs 60", x.griefs(0, 0, 60), 0);
+        LostBeforeSung y = twoChildren(2, 2, 0);
+        DUE.be("LOST in 61 is never", y.lostIn(0), -1);
+        DUE.be("last", y.last(0), -1);
+        DUE.be("forgets", y.forgets(1, 0), -1);
+        DUE.be("workFor 60", y.workFor(0, 60), -1);
+        DUE.be("teach 0", y.teach(0, 0), -1);
+        DUE.be("next", y.next(), -1);
+        DUE.be("LOST in 55, found in 60", twoChildren(8, 1, 0).sungIn(0), 60);
+        DUE.be("LOST in 56, found in 61", twoChildren(7, 0, 1).sungIn(0), -1);
+        DUE.be("LOST in 56", twoChildren(7, 0, 1).lostIn(0), 56);
+    }
+
+    /** Numbers of PEOPLE and SONGS apart, so that none may stand for the other. */
+    private static void oneOfOthers() {
+        LostBeforeSung x = new LostBeforeSung();
+        for (int p = 0; p < 4; p++) {
+            x.person(0, 0, 3 + p, 0);
+        }
+        for (int s = 0; s < 3; s++) {
+            x.song(3 * s, 0);
+        }
+        x.knows(3, 1, 0);
+        x.knows(2, 1, 3);
+        x.knows(0, 1, 9);
+        DUE.be("hold(3, 1)", x.hold(3, 1), 9);
+        DUE.be("weakest", x.weakest(1), 0);
+        DUE.be("forgets", x.forgets(3, 1), 10);
+        DUE.be("forgets", x.forgets(2, 1), 6);
+        DUE.be("griefs", x.griefs(3, 1, 7), 3);
+        DUE.be("griefs", x.griefs(2, 1, 3), 3);
+        DUE.be("griefs of what he doesn't HAVE", x.griefs(3, 0, 7), -5);
+        DUE.be("griefs of what he doesn't HAVE", x.griefs(1, 1, 7), -5);
+        DUE.be("lostIn", x.lostIn(1), 10);
+        DUE.be("last", x.last(1), 8);
+        DUE.be("hummer", x.hummer(1), 0);
+        DUE.be("next: the first of both that nobody HAS", x.next(), 0);
+        // Taught for 0 years: 1 (HOLD 4) keeps it till YEAR 5, 0 (HOLD 3) till YEAR 4 just as 2 who HAS it.
+        LostBeforeSung y = new LostBeforeSung();
+        y.song(0, 0);
+        y.person(0, 0, 4, 0);
+        y.person(0, 0, 3, 0);
+        y.person(0, 0, 3, 0);
+        y.knows(2, 0, 0);
+        DUE.be("the second, not the first", y.teach(0, 1), 2);
     }
 
     private static void refused() {

@@ -108,7 +108,8 @@ public final class TapeTest {
             {"year 1000", 5}, {"year 0000", 5}, {"year 99999999999", 5}, {"5", 0}, {"work 1;;work 2", 7},
             {"work 1;5", 7}, {"work 1,", 6}, {"work\t1", 4}, {"work 1\n", 6}, {"work 1;wor", 7}, {"nothing 1", 0},
             {"work work 1", 5}, {"work ;", 5}, {"work 1 2", 7}, {"work 1a", 6}, {"\u00e9", 0}, {"work \u00ff", 5},
-            {"work 1`", 6}, {"work 1{", 6}, {"work 1:", 6}, {"work 1/", 6}, {"a", 0}, {"wor k 1", 0}};
+            {"work 1`", 6}, {"work 1{", 6}, {"work 1:", 6}, {"work 1/", 6}, {"a", 0}, {"wor k 1", 0}, {"workz 1", 0},
+            {"xork 1", 0}, {"z", 0}, {"song z", 5}, {"worl 1", 0}, {"work 19", 5}};
         for (int i = 0; i < due.length; i++) {
             isle(x, (String) due[i][0], -20 - (Integer) due[i][1]);
             DUE.be("status(12)", x.status(12), i + 1);
@@ -128,6 +129,9 @@ public final class TapeTest {
         isle(x, "has00 000;hums0", 2);
         DUE.be("years(0, 0)", x.years(0, 0), 0);
         isle(x, "beside 00", -29);
+        isle(x, "work 1239;", -25);
+        isle(x, "work 1", 1);
+        DUE.be("nothing is left of the tape ahead", x.status(2), 1);
     }
 
     private static void noRoom() {

@@ -87,11 +87,18 @@ public final class TruthTest {
         x.mark(0, 2, 2);
         DUE.be("it is SUNG", x.taught(0, 0), 2);
         DUE.be("it is SUNG still", x.songOf(0, 2), 2);
-        int[] bad = {x.taught(2, 0), x.taught(-1, 0), x.taught(0, 1), x.taught(0, -1)};
+        x.song(0, 0);
+        x.song(0, 0);
+        x.mark(1, 2, 1);
+        DUE.be("the person 1, the song 2", x.taught(1, 2), 1);
+        DUE.be("the person 0, the song 2", x.taught(0, 2), 2);
+        DUE.be("what they HAVE", x.both(0, 1), 5);
+        DUE.be("the song 1 is LOST", x.taught(0, 1), -5);
+        int[] bad = {x.taught(2, 0), x.taught(-1, 0), x.taught(0, 3), x.taught(0, -1)};
         for (int b : bad) {
             DUE.be("taught bad", b, -2);
         }
-        DUE.be("status(15)", x.status(15), 2);
+        DUE.be("status(15)", x.status(15), 3);
         DUE.be("status(12)", x.status(12), 4);
     }
 
