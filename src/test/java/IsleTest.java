@@ -345,6 +345,14 @@ public final class IsleTest {
         DUE.be("below 0", x.weakest(0), 3);
         x.give(3, 2, 1);
         DUE.be("also one who HUMS", x.weakest(0), 3);
+        LostBeforeSung y = new LostBeforeSung();
+        y.song(9, 0);
+        y.song(0, 0);
+        y.person(0, 0, 3, 0);
+        y.person(0, 0, 5, 0);
+        y.knows(0, 1, 0);
+        y.knows(1, 1, 1);
+        DUE.be("by the SONG's HARD", y.weakest(1), 0);
         DUE.be("weakest bad", x.weakest(1), -2);
         DUE.be("weakest bad", x.weakest(-1), -2);
         DUE.be("NONE isn't refused", x.status(12), 2);

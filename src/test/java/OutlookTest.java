@@ -196,6 +196,36 @@ public final class OutlookTest {
         LostBeforeSung y = new LostBeforeSung();
         y.song(0, 0);
         DUE.be("nobody", y.keep(0), -1);
+        keepsByAYear();
+        keepsFromSeveral();
+    }
+
+    private static void keepsByAYear() {
+        LostBeforeSung x = new LostBeforeSung();
+        x.song(0, 0);
+        // Child 1 picks it up from 3 in YEAR 1 and forgets it in YEAR 8; child 2 HAS it now, till YEAR 7.
+        x.person(0, 0, 0, 0);
+        x.person(5, 0, 3, 0);
+        x.person(5, 0, 3, 0);
+        x.person(0, 0, 1, 0);
+        x.knows(2, 0, 0);
+        x.knows(3, 0, 0);
+        x.seat(1, 3, 1);
+        DUE.be("lostIn", x.lostIn(0), 8);
+        DUE.be("a YEAR sooner without 1", x.keep(0), 1);
+    }
+
+    private static void keepsFromSeveral() {
+        LostBeforeSung x = new LostBeforeSung();
+        x.song(0, 0);
+        x.person(5, 0, 3, 0);
+        x.person(0, 0, 1, 0);
+        x.person(5, 0, 3, 0);
+        x.knows(1, 0, 0);
+        x.seat(0, 1, 1);
+        x.seat(2, 1, 1);
+        DUE.be("lostIn", x.lostIn(0), 8);
+        DUE.be("from the one both sit BESIDE", x.keep(0), 1);
     }
 
     private static void works() {

@@ -94,6 +94,13 @@ public final class TruthTest {
         DUE.be("the person 0, the song 2", x.taught(0, 2), 2);
         DUE.be("what they HAVE", x.both(0, 1), 5);
         DUE.be("the song 1 is LOST", x.taught(0, 1), -5);
+        LostBeforeSung y = new LostBeforeSung();
+        y.person(0, 0, 0, 0);
+        y.person(0, 0, 0, 0);
+        y.song(0, 0);
+        y.song(0, 0);
+        y.knows(1, 1, 5);
+        DUE.be("another HAS it", y.taught(0, 1), 2);
         int[] bad = {x.taught(2, 0), x.taught(-1, 0), x.taught(0, 3), x.taught(0, -1)};
         for (int b : bad) {
             DUE.be("taught bad", b, -2);
