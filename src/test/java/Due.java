@@ -2,12 +2,22 @@
 final class Due {
     private int wrong;
     private int calls;
+    private String about = "";
+
+    /** What the checks from now on are about: told with each that fails. */
+    void about(String what) {
+        about = what;
+    }
+
+    int calls() {
+        return calls;
+    }
 
     void be(String call, long got, long want) {
         calls++;
         if (got != want) {
             wrong++;
-            System.out.println(call + " answered " + got + ", due is " + want);
+            System.out.println(about + call + " answered " + got + ", due is " + want);
         }
     }
 

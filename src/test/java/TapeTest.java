@@ -92,10 +92,6 @@ public final class TapeTest {
     }
 
     private static void faults() {
-        LostBeforeSung x = new LostBeforeSung();
-        x.person(0, 0, 0, 0);
-        x.person(0, 0, 0, 0);
-        x.song(0, 0);
         Object[][] due = {
             {"", 0}, {"   ", 3}, {";", 0}, {"person", 6}, {"person 0", 8}, {"person 0 0 0", 12}, {"person 0 0 0 ", 13},
             {"person;", 6}, {"person 0 0 0;", 12}, {"person 0 0 0 0 0", 15}, {"person 0 0 0 0;", 15},
@@ -110,13 +106,14 @@ public final class TapeTest {
             {"work work 1", 5}, {"work ;", 5}, {"work 1 2", 7}, {"work 1a", 6}, {"\u00e9", 0}, {"work \u00ff", 5},
             {"work 1`", 6}, {"work 1{", 6}, {"work 1:", 6}, {"work 1/", 6}, {"a", 0}, {"wor k 1", 0}, {"workz 1", 0},
             {"xork 1", 0}, {"z", 0}, {"song z", 5}, {"worl 1", 0}, {"work 19", 5}};
-        for (int i = 0; i < due.length; i++) {
-            isle(x, (String) due[i][0], -20 - (Integer) due[i][1]);
-            DUE.be("status(12)", x.status(12), i + 1);
+        for (Object[] d : due) {
+            LostBeforeSung x = Made.plain(2, 1);
+            isle(x, (String) d[0], -20 - (Integer) d[1]);
+            DUE.be("status(12)", x.status(12), 1);
+            DUE.be("status(0)", x.status(0), 2);
+            DUE.be("status(1)", x.status(1), 1);
+            DUE.be("status(2)", x.status(2), 3);
         }
-        DUE.be("status(0)", x.status(0), 2);
-        DUE.be("status(1)", x.status(1), 1);
-        DUE.be("status(2)", x.status(2), 3);
     }
 
     private static void blanks() {

@@ -1,12 +1,18 @@
 import java.lang.reflect.InvocationTargetException;
 import java.lang.reflect.Method;
+import java.util.ArrayList;
+import java.util.Arrays;
+import java.util.Collections;
 import java.util.HashMap;
+import java.util.List;
 import java.util.Map;
 import java.util.Random;
 
 /** Random runs of calls on the class and on its Twin: every answer must be the same, and nothing may be thrown. */
 public final class TwinTest {
     private static final int CALLS = 512;
+    /** Calls kept back for looking at the whole state in the end. */
+    private static final int LOOKS = 100;
     /** Each method with how many values its arguments have: P of people, G of songs, V any at all, N with NONE too. */
     private static final String[] METHODS = {
         "row 8 5 41", "set 8 41 V", "copy 8 8 6 6 6", "element 8 41", "holds 8", "show 8 NP", "says 8 6",
@@ -74,7 +80,7 @@ public final class TwinTest {
         if (random.nextInt(8) != 0) {
             people();
         }
-        while (calls < CALLS && wrong == 0) {
+        while (calls < CALLS - LOOKS && wrong == 0) {
             int pick = random.nextInt(100);
             if (pick < 2) {
                 tape();
@@ -118,7 +124,7 @@ public final class TwinTest {
         int person = random.nextInt(twin.w.people.size());
         int n = random.nextInt(known ? 41 : 13);
         due("row", 1, random.nextInt(4), n);
-        for (int i = 0; i < n && calls < CALLS - 4; i++) {
+        for (int i = 0; i < n && calls < CALLS - LOOKS - 4; i++) {
             Twin.World then = twin.w.later(i + 1);
             long set = known ? then.known() : then.setOf(person);
             due("set", 1, i, random.nextInt(30) == 0 ? random.nextInt(64) : set);
@@ -195,7 +201,7 @@ public final class TwinTest {
     private void notes() throws Exception {
         int n = random.nextInt(9);
         due("row", 2, random.nextInt(5), n);
-        for (int i = 0; i < n && calls < CALLS - 4; i++) {
+        for (int i = 0; i < n && calls < CALLS - LOOKS - 4; i++) {
             due("set", 2, i, (long) random.nextInt(random.nextInt(20) == 0 ? 6 : 5));
         }
         due("nearest", 2, n, 0);
@@ -216,7 +222,7 @@ public final class TwinTest {
         if (random.nextInt(3) == 0) {
             corrupt(text);
         }
-        for (int i = 0; i < text.length() && calls < CALLS - 1; i++) {
+        for (int i = 0; i < text.length() && calls < CALLS - LOOKS; i++) {
             due("feed", (int) text.charAt(i));
         }
         due("isle");
@@ -279,7 +285,7 @@ public final class TwinTest {
             args[i] = types[i] == long.class ? (Object) v : (Object) (int) v;
         }
         calls++;
-        told.append(name).append(java.util.Arrays.toString(args)).append('\n');
+        told.append(name).append(Arrays.toString(args)).append('\n');
         long want;
         try {
             want = ((Number) twins.get(name).invoke(twin, args)).longValue();
@@ -296,36 +302,35 @@ public final class TwinTest {
         }
     }
 
-    /** Asked behind the 512th call, where nothing is promised any more, but the class goes on as before. */
+    /** Of all that can be seen, as much as there are calls left for, by chance. */
     private void wholeState() throws Exception {
+        List<Object[]> all = new ArrayList<>();
         for (int p = 0; p < twin.w.people.size(); p++) {
             for (int what = 0; what < 7; what++) {
-                beyond(x.personOf(p, what), twin.personOf(p, what));
+                all.add(new Object[] {"personOf", p, what});
             }
             for (int s = 0; s < twin.w.songs.size(); s++) {
-                beyond(x.years(p, s), twin.years(p, s));
+                all.add(new Object[] {"years", p, s});
             }
         }
         for (int s = 0; s < twin.w.songs.size(); s++) {
             for (int what = 0; what < 5; what++) {
-                beyond(x.songOf(s, what), twin.songOf(s, what));
+                all.add(new Object[] {"songOf", s, what});
             }
         }
         for (int what = 0; what < 20; what++) {
-            beyond(x.status(what), twin.status(what));
+            all.add(new Object[] {"status", what});
         }
         for (int s = 0; s < 8; s++) {
-            beyond(x.holds(s), twin.holds(s));
-            for (int i = 0; i < 40; i++) {
-                beyond(x.element(s, i), twin.element(s, i));
+            all.add(new Object[] {"holds", s});
+            for (int i = 0; i < 40 && twin.shelf[s] instanceof Twin.Row; i++) {
+                all.add(new Object[] {"element", s, i});
             }
         }
-    }
-
-    private void beyond(long got, long want) {
-        if (got != want) {
-            wrong++;
-            System.out.println(told + "the state behind it has " + got + ", the twin " + want);
+        Collections.shuffle(all, random);
+        for (int i = 0; i < all.size() && calls < CALLS; i++) {
+            Object[] call = all.get(i);
+            due((String) call[0], Arrays.copyOfRange(call, 1, call.length));
         }
     }
 }
