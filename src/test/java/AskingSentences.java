@@ -421,6 +421,18 @@ final class AskingSentences {
         x.mark(0, 0, 0);
         x.give(1, 0, 9);
         due.be("HOLD 6 less 3, HOLD 5 less 4", x.weakest(0), 2);
+        // Of HARD 4 the child has HOLD 10 and the islander 8; of HARD 0 it would be 2 and 4.
+        LostBeforeSung y = new LostBeforeSung();
+        y.person(5, 0, 1, 0);
+        y.person(0, 0, 4, 0);
+        y.song(4, 0);
+        y.song(0, 4);
+        for (int p = 0; p < 2; p++) {
+            y.knows(p, 0, 0);
+            y.knows(p, 1, 0);
+        }
+        due.be("of HARD 4", y.weakest(0), 1);
+        due.be("of HARD 0", y.weakest(1), 0);
     }
 
     /** HOLD 6, 7, 9; years 0. */

@@ -516,6 +516,19 @@ final class IsleSentences {
         due.be("the second", x.personOf(1, 5), 1);
         due.be("seat(0, 7, 0)", x.seat(0, 7, 0), 0);
         due.be("refusals", Made.refusals(x), 0);
+        LostBeforeSung y = Made.plain(8, 0);
+        for (int p = 0; p < 8; p++) {
+            for (int other = 0; other < p; other++) {
+                String two = p + " and " + other;
+                due.be(two, y.seat(p, other, 0), 0);
+                due.be(two, y.seat(other, p, 1), 0);
+                due.be(two, y.seat(other, p, 1), 1);
+                due.be(two, y.seat(p, other, 1), 1);
+                due.be(two, y.seat(p, other, 0), 1);
+                due.be(two, y.seat(other, p, 0), 0);
+                due.be(two, y.seat(other, p, 1), 0);
+            }
+        }
     }
 
     private static void seatBad(Due due) {

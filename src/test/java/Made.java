@@ -100,6 +100,30 @@ final class Made {
         return x;
     }
 
+    /** As many PEOPLE and SONGS as can be, none of them as at first, and everybody HAS every SONG. */
+    static LostBeforeSung fullOfAll() {
+        LostBeforeSung x = new LostBeforeSung();
+        for (int p = 0; p < 8; p++) {
+            x.person(1 + p % 5, 9 - p, 2 + p, 8 - p);
+            x.give(p, 2, 1);
+            for (int other = 0; other < p; other++) {
+                x.seat(p, other, 1);
+            }
+        }
+        for (int s = 0; s < 6; s++) {
+            x.song(9 - s, 1 + s % 4);
+            x.mark(s, 2, 1 + s % 2);
+            tune(x, s, s % 2 == 0 ? "12341234" : "44332211");
+            for (int p = 0; p < 8; p++) {
+                x.knows(p, s, 1 + 6 * p + s);
+            }
+        }
+        x.tell(0, 9);
+        x.tell(1, 777);
+        x.seed(-1);
+        return x;
+    }
+
     static LostBeforeSung fullOfPeople() {
         LostBeforeSung x = plain(7, 1);
         x.person(4, 1, 2, 3);
@@ -185,7 +209,7 @@ final class Made {
         }
     }
 
-    private static void seenAlike(Due due, String behind, LostBeforeSung x, LostBeforeSung y) {
+    static void seenAlike(Due due, String behind, LostBeforeSung x, LostBeforeSung y) {
         int people = y.status(0);
         int songs = y.status(1);
         for (int what = 0; what <= 7; what++) {

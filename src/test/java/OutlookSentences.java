@@ -5,7 +5,10 @@ final class OutlookSentences {
 
     static void all(Sentences t) {
         t.of(Sentences.TERMS, "(nothing is changed)", OutlookSentences::nothingIsChanged);
-        t.of(Sentences.TERMS, "BEHIND n YEARS (0 to 60):", OutlookSentences::behindAsInTruth);
+        t.of(Sentences.TERMS, "BEHIND n YEARS (0 to 60):", due -> {
+            behindAsInTruth(due);
+            fullBehindAsInTruth(due);
+        });
         t.of(Sentences.TERMS, "who HAS a SONG (bits), its STATE, SONGS that are KNOWN (somebody has them; bits).",
             OutlookSentences::behindBits);
         t.of(Sentences.TERMS, "LOST IN: behind how many YEARS (0 to 60) it isn't new any more (0: now); NONE.",
@@ -196,6 +199,36 @@ final class OutlookSentences {
             due.be("n 61", x.behind(song, 61, 0), Made.BAD);
             due.be("n -1", x.behind(song, -1, 0), Made.BAD);
             due.be("refusals", Made.refusals(x), 2000000000000L);
+        }
+    }
+
+    /** As many of each as there can be, of all KINDS, and all SONGS new. */
+    private static LostBeforeSung busiest() {
+        LostBeforeSung x = Made.fullOfAll();
+        for (int p = 0; p < 8; p++) {
+            x.give(p, 2, 0);
+            x.seat(p, (p + 3) % 8, 0);
+        }
+        for (int s = 0; s < 6; s++) {
+            x.mark(s, 2, 0);
+            for (int p = 0; p < 8; p++) {
+                x.knows(p, s, p % 2 == 0 ? p / 2 : -1);
+            }
+        }
+        x.tell(0, 4);
+        return x;
+    }
+
+    private static void fullBehindAsInTruth(Due due) {
+        for (int song = 0; song < 6; song++) {
+            LostBeforeSung x = busiest();
+            LostBeforeSung y = busiest();
+            for (int n = 0; n <= 30; n++) {
+                due.be("of all there can be, who HAS " + song + " behind " + n, x.behind(song, n, 0), y.songOf(song, 3));
+                due.be("of all there can be, STATE of " + song + " behind " + n, x.behind(song, n, 1), y.songOf(song, 2));
+                due.be("of all there can be, KNOWN behind " + n, x.behind(song, n, 2), y.songs(0));
+                y.pass();
+            }
         }
     }
 
@@ -446,6 +479,15 @@ final class OutlookSentences {
         due.be("in 7, of two", y.teach(0, 1), 2);
         y.give(3, 0, 5);
         due.be("in 6 again", y.teach(0, 1), 8);
+        // 2 HAS it till YEAR 2; for 0 years 0 (HOLD 3) would have it till YEAR 3, and 1 (HOLD 2) till YEAR 2.
+        LostBeforeSung z = Made.plain(3, 1);
+        z.give(0, 0, 3);
+        z.give(1, 0, 2);
+        z.give(2, 0, 2);
+        z.knows(2, 0, 0);
+        due.be("for 0 years, neither more nor fewer", z.teach(0, 1), 2);
+        z.give(2, 0, 3);
+        due.be("in 4 by both", z.teach(0, 1), 1);
     }
 
     private static void teachLeastAsBits(Due due) {

@@ -424,16 +424,16 @@ final class ShelfSentences {
         int[] own = {7, 3, 4, 2, 9, 14};
         int[] above = {0, 0, 0, 1, 2, 0};
         for (int kind = 1; kind < 6; kind++) {
-            LostBeforeSung x = Made.plain(0, 1);
+            LostBeforeSung x = Made.plain(7, 1);
             x.mark(0, 0, 9);
             x.person(kind, 4, 9, 2);
-            x.show(7, 0);
+            x.show(7, 7);
             due.be("KIND " + kind, x.says(7, kind), own[kind]);
             if (above[kind] > 0) {
                 due.be("KIND " + kind + " as " + above[kind], x.says(7, above[kind]), own[kind]);
             }
-            x.give(0, 1, 9);
-            x.give(0, 0, 0);
+            x.give(7, 1, 9);
+            x.give(7, 0, 0);
             due.be("0 at least, KIND " + kind, x.says(7, kind), kind == 4 ? 5 : 0);
         }
     }

@@ -81,6 +81,11 @@ final class TapeSentences {
         due.be("all of it is read", x.isle(), 1);
         due.be("to the last byte", x.status(2), 7);
         due.be("and there is room again", x.feed('a'), 1);
+        fault(due, repeated(" ", 246) + "work", 250);
+        fault(due, repeated("a", 250), 0);
+        fault(due, repeated("1", 250), 0);
+        fault(due, repeated(";", 250), 0);
+        due.be("a NUMBER at its end", Made.isle(small(), repeated(" ", 242) + "year 123"), 1);
         fault(due, repeated(" ", 242) + "work 2;", 249);
     }
 
@@ -117,7 +122,9 @@ final class TapeSentences {
             fault(due, word + "s 0", 0);
             fault(due, word.substring(1) + " 0", 0);
             fault(due, word.substring(0, word.length() - 1) + "b 0", 0);
-            fault(due, "b" + word.substring(1) + "b 0", 0);
+            for (int i = 0; i < word.length(); i++) {
+                fault(due, word.substring(0, i) + "q" + word.substring(i + 1) + " 0 0 0 0", 0);
+            }
         }
     }
 
@@ -335,7 +342,65 @@ final class TapeSentences {
         fault(due, "year 999 9", 9);
     }
 
+    /** The STATEMENT comes to just what the call by hand does, whatever there is. */
+    private static void asByHand(Due due, String statement, Made.Call hand) {
+        Made.Making[] makings = {Made::usual, TapeSentences::crossed, TapeSentences::uncrossed};
+        for (Made.Making making : makings) {
+            LostBeforeSung x = making.made();
+            LostBeforeSung y = making.made();
+            x.wipe();
+            y.wipe();
+            due.be(statement, Made.isle(x, statement), 1);
+            hand.on(y);
+            Made.seenAlike(due, statement + ": ", x, y);
+        }
+    }
+
+    /** Three of each; all sit BESIDE each other, HUM, and HAVE all. */
+    private static LostBeforeSung crossed() {
+        LostBeforeSung x = Made.plain(3, 3);
+        for (int p = 0; p < 3; p++) {
+            x.give(p, 2, 1);
+            x.seat(p, (p + 1) % 3, 1);
+            for (int s = 0; s < 3; s++) {
+                x.knows(p, s, 7);
+            }
+        }
+        x.tell(1, 5);
+        return x;
+    }
+
+    /** Three of each, and nothing between them. */
+    private static LostBeforeSung uncrossed() {
+        return Made.plain(3, 3);
+    }
+
+    private static void statementsAsByHand(Due due) {
+        asByHand(due, "person 4 3 2 1", x -> x.person(4, 3, 2, 1));
+        asByHand(due, "song 7 3", x -> x.song(7, 3));
+        asByHand(due, "has 0 1", x -> x.knows(0, 1, 0));
+        asByHand(due, "has 2 0", x -> x.knows(2, 0, 0));
+        asByHand(due, "not 0 1", x -> x.knows(0, 1, -1));
+        asByHand(due, "not 2 0", x -> x.knows(2, 0, -1));
+        asByHand(due, "beside 0 1", x -> x.seat(0, 1, 1));
+        asByHand(due, "beside 2 0", x -> x.seat(2, 0, 1));
+        asByHand(due, "away 0 1", x -> x.seat(0, 1, 0));
+        asByHand(due, "away 2 1", x -> x.seat(2, 1, 0));
+        asByHand(due, "hums 2", x -> x.give(2, 2, 1));
+        asByHand(due, "hums 0", x -> x.give(0, 2, 1));
+        asByHand(due, "still 2", x -> x.give(2, 2, 0));
+        asByHand(due, "still 0", x -> x.give(0, 2, 0));
+        asByHand(due, "work 8", x -> x.tell(0, 8));
+        asByHand(due, "year 8", x -> x.tell(1, 8));
+    }
+
     private static void allComes(Due due) {
+        statementsAsByHand(due);
+        LostBeforeSung full = Made.fullOfAll();
+        LostBeforeSung other = Made.fullOfAll();
+        due.be("isle", Made.isle(full, "work 1"), 1);
+        other.tell(0, 1);
+        Made.seenAlike(due, "of all there can be: ", full, other);
         LostBeforeSung x = Made.usual();
         x.wipe();
         due.be("isle", Made.isle(x, "person 1 2 3 4;song 5 1;has 3 2;has 0 2;beside 3 0;hums 3;still 2;not 1 0;away 0 1"), 9);
@@ -345,6 +410,20 @@ final class TapeSentences {
                 due.be("personOf(" + p + ", " + what + ")", x.personOf(p, what), of[p][what]);
             }
         }
+        LostBeforeSung told = new LostBeforeSung();
+        LostBeforeSung made = new LostBeforeSung();
+        StringBuilder text = new StringBuilder("work 9");
+        made.tell(0, 9);
+        for (int i = 0; i < 8; i++) {
+            text.append(";person ").append(5 - i % 6).append(' ').append(9 - i).append(' ').append(i + 2).append(" 8");
+            made.person(5 - i % 6, 9 - i, i + 2, 8);
+        }
+        for (int i = 0; i < 6; i++) {
+            text.append(";song ").append(9 - i).append(' ').append(4 - i % 4);
+            made.song(9 - i, 4 - i % 4);
+        }
+        due.be("isle of all there can be", Made.isle(told, text.toString()), 15);
+        Made.seenAlike(due, "of all there can be: ", told, made);
         due.be("a TUNE stays", x.songOf(0, 4), 40000000);
         due.be("what one HAS stays", x.years(0, 0), 2);
         due.be("WORK stays", x.status(2), 6);
@@ -505,10 +584,25 @@ final class TapeSentences {
         due.be("only what comes then", Made.isle(x, "year 7"), 1);
         due.be("YEAR", x.status(3), 7);
         due.be("WORK as it was", x.status(2), 6);
+        nothingIsLeft(due, "workers", "work", -24);
+        nothingIsLeft(due, "work    ", "work", -24);
+        nothingIsLeft(due, "work 123", "work 1", 1);
+        nothingIsLeft(due, "work 1;;", "work 1", 1);
+        nothingIsLeft(due, "work 1 2", "work 1 ", 1);
         LostBeforeSung y = Made.fullOfTape();
         y.wipe();
         due.be("room again", y.feed('a'), 1);
         due.be("nothing else changes", y.status(0), 1);
+    }
+
+    /** What was on THE TAPE ahead of wipe or isle is no more behind what comes then. */
+    private static void nothingIsLeft(Due due, String ahead, String then, int answer) {
+        LostBeforeSung x = small();
+        Made.feed(x, ahead);
+        x.wipe();
+        due.be("isle of '" + then + "' where '" + ahead + "' was", Made.isle(x, then), answer);
+        Made.isle(x, ahead);
+        due.be("isle of '" + then + "' behind '" + ahead + "'", Made.isle(x, then), answer);
     }
 
     private static void sizeAhead(Due due) {

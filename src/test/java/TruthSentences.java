@@ -26,7 +26,10 @@ final class TruthSentences {
         t.of(53, "SEED becomes v: the one ahead.", TruthSentences::seed);
         t.of(54, "All is kept,", TruthSentences::allIsKept);
         t.of(54, "but THE TAPE, SHELVES and REFUSALS: 1.", TruthSentences::notKept);
-        t.of(55, "All is again as it was kept", TruthSentences::again);
+        t.of(55, "All is again as it was kept", due -> {
+            again(due);
+            cameAgain(due);
+        });
         t.of(55, "(SHELVES with PEOPLE hold those of the same numbers, or NOTHING): 1.", TruthSentences::shelvesThen);
         t.of(55, "STUCK: nothing was.", TruthSentences::backStuck);
         t.of(56, "PEOPLE (0), SONGS (1), WORK (2), YEAR (3), how many SONGS are KNOWN (4), THE TAPE's size (5), SEED (6),",
@@ -365,7 +368,7 @@ final class TruthSentences {
     private static void allIsKept(Due due) {
         LostBeforeSung x = Made.usual();
         due.be("image()", x.image(), 1);
-        sameIsle(due, "now: ", x, Made.usual());
+        Made.seenAlike(due, "now: ", x, Made.usual());
         changeAll(x);
         x.back();
         sameIsle(due, "back: ", x, Made.usual());
@@ -383,6 +386,37 @@ final class TruthSentences {
         y.song(0, 0);
         y.back();
         sameIsle(due, "back to the later image: ", y, z);
+        LostBeforeSung full = Made.fullOfAll();
+        full.image();
+        for (int p = 0; p < 8; p += 7) {
+            full.give(p, 0, 0);
+            full.give(p, 1, 9);
+            full.give(p, 2, 0);
+            full.seat(p, 3, 0);
+            full.knows(p, 0, -1);
+            full.knows(p, 5, 99);
+        }
+        for (int s = 0; s < 6; s += 5) {
+            full.mark(s, 0, 1);
+            full.mark(s, 1, 0);
+            full.mark(s, 2, 0);
+            full.note(s, 0, 0);
+            full.note(s, 7, 0);
+        }
+        full.back();
+        sameIsle(due, "back to all there can be: ", full, Made.fullOfAll());
+    }
+
+    /** What wasn't there at the image's time is new when it comes again, whatever it was. */
+    private static void cameAgain(Due due) {
+        LostBeforeSung x = new LostBeforeSung();
+        x.image();
+        Made.isle(x, "person 5 1 2 3;person 5 1 2 3;song 4 4;hums 0;has 0 0;beside 0 1");
+        Made.tune(x, 0, "44444444");
+        x.mark(0, 2, 2);
+        x.back();
+        Made.isle(x, "person 0 0 0 0;person 0 0 0 0;song 0 0");
+        sameIsle(due, "came again: ", x, Made.plain(2, 1));
     }
 
     private static void notKept(Due due) {
@@ -476,6 +510,20 @@ final class TruthSentences {
         due.be("NOTHING", x.says(4, 0), Made.NOTHING);
         x.person(0, 0, 0, 0);
         due.be("NOTHING, though he is there again", x.holds(4), -1);
+        for (int people = 0; people <= 8; people++) {
+            LostBeforeSung w = Made.plain(people, 0);
+            w.image();
+            for (int p = people; p < 8; p++) {
+                w.person(0, 0, 0, 0);
+            }
+            for (int s = 0; s < 8; s++) {
+                w.show(s, s);
+            }
+            w.back();
+            for (int s = 0; s < 8; s++) {
+                due.be("back to " + people + ", holds(" + s + ")", w.holds(s), s < people ? 10 + s : -1);
+            }
+        }
         LostBeforeSung y = new LostBeforeSung();
         y.image();
         y.person(0, 0, 0, 0);

@@ -209,6 +209,9 @@ final class YearSentences {
         y.give(3, 2, 1);
         y.pass();
         due.be("a child who HUMS keeps it", y.years(3, 0), 1);
+        y.knows(3, 0, -1);
+        y.pass();
+        due.be("a child who HUMS picks up, too", y.years(3, 0), 0);
     }
 
     private static void onlyWhatHeLacks(Due due) {
