@@ -546,6 +546,14 @@ final class OutlookSentences {
         due.be("SUNG now: all alike", x.hummer(0), 3);
         due.be("nothing is changed", x.personOf(3, 4), 0);
         due.be("who HUMS already", hummed().hummer(0), 0);
+        LostBeforeSung y = Made.plain(3, 1);
+        y.knows(1, 0, 0);
+        y.knows(2, 0, 0);
+        y.give(1, 2, 1);
+        due.be("who HUMS already keeps it for ever by that, and is the first", y.hummer(0), 1);
+        y.give(0, 2, 1);
+        y.knows(0, 0, 0);
+        due.be("both HUM already", y.hummer(0), 0);
     }
 
     private static void hummerNone(Due due) {

@@ -7,7 +7,9 @@ import java.nio.charset.StandardCharsets;
 import java.nio.file.Files;
 import java.nio.file.Path;
 import java.util.Arrays;
+import java.util.HashMap;
 import java.util.HashSet;
+import java.util.Map;
 import java.util.Set;
 import java.util.TreeSet;
 import java.util.regex.Matcher;
@@ -17,6 +19,7 @@ import java.util.regex.Pattern;
 public final class RulesTest {
     private static final Path FILE = Path.of("src/main/java/LostBeforeSung.java");
     private static final Path DOC = Path.of("../shared/DOC.md");
+    private static final int CALL_DEPTH = 8;
     private static final Due DUE = new Due();
 
     public static void main(String[] args) throws Exception {
@@ -26,6 +29,7 @@ public final class RulesTest {
         words(source);
         methodLengths(source);
         newOnlyWithTheObject(source);
+        callDepth(source);
         DUE.end();
     }
 
@@ -136,5 +140,40 @@ public final class RulesTest {
             .map(String::trim).toArray(String[]::new);
         DUE.yes("new elsewhere: " + Arrays.toString(made), Arrays.equals(made, new String[] {"shelves[s] = new Shelf();"}));
         DUE.yes("no clone or copyOf", !source.contains("clone(") && !source.contains("copyOf"));
+    }
+
+    /** By names alone: were two of one name, this would only see more calls than there are. */
+    private static void callDepth(String source) {
+        Map<String, Set<String>> calls = new HashMap<>();
+        String header = "(?m)^ +(?:public|private) (?:static )?[\\w\\[\\]]+ (\\w+)\\(.*\\{$";
+        Matcher m = Pattern.compile(header).matcher(source);
+        while (m.find()) {
+            calls.computeIfAbsent(m.group(1), name -> new TreeSet<>());
+        }
+        m.reset();
+        while (m.find()) {
+            int end = source.indexOf("\n" + m.group().replaceAll("(?s)^\n*( +).*", "$1") + "}\n", m.end());
+            Matcher called = Pattern.compile("\\b(\\w+)\\(").matcher(source.substring(m.end(), end));
+            while (called.find()) {
+                if (calls.containsKey(called.group(1))) {
+                    calls.get(m.group(1)).add(called.group(1));
+                }
+            }
+        }
+        DUE.yes("the methods are seen", calls.size() > 100 && calls.get("teach").contains("worstPupils"));
+        for (String name : calls.keySet()) {
+            DUE.yes(name + " goes " + CALL_DEPTH + " calls deep at most", depthOf(name, calls, 1) <= CALL_DEPTH);
+        }
+    }
+
+    private static int depthOf(String name, Map<String, Set<String>> calls, int depth) {
+        int deepest = depth;
+        // One that calls itself has no end, so nothing is looked at that is too deep already.
+        if (depth <= CALL_DEPTH) {
+            for (String called : calls.get(name)) {
+                deepest = Math.max(deepest, depthOf(called, calls, depth + 1));
+            }
+        }
+        return deepest;
     }
 }
