@@ -292,6 +292,20 @@ final class AskingSentences {
         due.be("what one HAS alone", x.both(7, 1), 0);
         due.be("what neither HAS", x.both(5, 6), 0);
         due.be("no SONGS", Made.plain(2, 0).both(0, 1), 0);
+        int[] sets = {63, 21, 42, 7, 56, 27, 0, 45};
+        LostBeforeSung y = Made.plain(8, 6);
+        for (int p = 0; p < 8; p++) {
+            for (int s = 0; s < 6; s++) {
+                y.knows(p, s, (sets[p] >> s & 1) - 1);
+            }
+        }
+        for (int p = 0; p < 8; p++) {
+            for (int other = 0; other < 8; other++) {
+                if (p != other) {
+                    due.be("of each two, " + p + " and " + other, y.both(p, other), sets[p] & sets[other]);
+                }
+            }
+        }
     }
 
     private static void bothBad(Due due) {
@@ -433,6 +447,17 @@ final class AskingSentences {
         }
         due.be("of HARD 4", y.weakest(0), 1);
         due.be("of HARD 0", y.weakest(1), 0);
+        LostBeforeSung z = new LostBeforeSung();
+        z.person(0, 0, 4, 0);
+        z.person(5, 0, 1, 0);
+        z.song(4, 0);
+        z.song(0, 4);
+        for (int p = 0; p < 2; p++) {
+            z.knows(p, 0, 0);
+            z.knows(p, 1, 0);
+        }
+        due.be("the islander first, of HARD 4", z.weakest(0), 0);
+        due.be("the islander first, of HARD 0", z.weakest(1), 1);
     }
 
     /** HOLD 6, 7, 9; years 0. */

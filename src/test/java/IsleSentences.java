@@ -299,6 +299,16 @@ final class IsleSentences {
             }
         }
         due.be("refusals", Made.refusals(x), 0);
+        for (int people = 1; people < 8; people++) {
+            for (int v = 0; v < 6; v++) {
+                LostBeforeSung y = Made.varied(people, 6);
+                due.be("the next one", y.person(v, 9 - v, 2 + v, v), people);
+                Made.eachAlike(due, "all others stay as they are: ", y, Made.varied(people, 6));
+                due.be("WORK", y.status(2), 9);
+                due.be("YEAR", y.status(3), 777);
+                due.be("SEED", y.status(6), -1);
+            }
+        }
     }
 
     private static void personBad(Due due) {
@@ -334,6 +344,16 @@ final class IsleSentences {
             due.be("SOUND of " + s, x.songOf(s, 1), made[s][1]);
         }
         due.be("refusals", Made.refusals(x), 0);
+        for (int songs = 1; songs < 6; songs++) {
+            for (int v = 0; v < 5; v++) {
+                LostBeforeSung y = Made.varied(8, songs);
+                due.be("the next one", y.song(v + 5, v), songs);
+                Made.eachAlike(due, "all others stay as they are: ", y, Made.varied(8, songs));
+                due.be("WORK", y.status(2), 9);
+                due.be("YEAR", y.status(3), 777);
+                due.be("SEED", y.status(6), -1);
+            }
+        }
     }
 
     private static void songBad(Due due) {

@@ -102,19 +102,24 @@ final class Made {
 
     /** As many PEOPLE and SONGS as can be, none of them as at first, and everybody HAS every SONG. */
     static LostBeforeSung fullOfAll() {
+        return varied(8, 6);
+    }
+
+    /** So many PEOPLE and SONGS, none of them as at first, and everybody HAS every SONG. */
+    static LostBeforeSung varied(int people, int songs) {
         LostBeforeSung x = new LostBeforeSung();
-        for (int p = 0; p < 8; p++) {
+        for (int p = 0; p < people; p++) {
             x.person(1 + p % 5, 9 - p, 2 + p, 8 - p);
             x.give(p, 2, 1);
             for (int other = 0; other < p; other++) {
                 x.seat(p, other, 1);
             }
         }
-        for (int s = 0; s < 6; s++) {
+        for (int s = 0; s < songs; s++) {
             x.song(9 - s, 1 + s % 4);
             x.mark(s, 2, 1 + s % 2);
             tune(x, s, s % 2 == 0 ? "12341234" : "44332211");
-            for (int p = 0; p < 8; p++) {
+            for (int p = 0; p < people; p++) {
                 x.knows(p, s, 1 + 6 * p + s);
             }
         }
@@ -210,11 +215,16 @@ final class Made {
     }
 
     static void seenAlike(Due due, String behind, LostBeforeSung x, LostBeforeSung y) {
-        int people = y.status(0);
-        int songs = y.status(1);
         for (int what = 0; what <= 7; what++) {
             due.be(behind + "status(" + what + ")", x.status(what), y.status(what));
         }
+        eachAlike(due, behind, x, y);
+    }
+
+    /** All that y has are in x as they are in y; x may have more of them. */
+    static void eachAlike(Due due, String behind, LostBeforeSung x, LostBeforeSung y) {
+        int people = y.status(0);
+        int songs = y.status(1);
         for (int p = 0; p < people; p++) {
             for (int what = 0; what <= 5; what++) {
                 due.be(behind + "personOf(" + p + ", " + what + ")", x.personOf(p, what), y.personOf(p, what));

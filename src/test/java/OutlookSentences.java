@@ -317,6 +317,22 @@ final class OutlookSentences {
         LostBeforeSung x = Made.plain(1, 1);
         x.mark(0, 2, 1);
         due.be("LOST, and nobody HAS it", x.last(0), -1);
+        for (int alone = 0; alone < 6; alone++) {
+            for (int state = 1; state < 3; state++) {
+                LostBeforeSung y = Made.plain(8, 6);
+                LostBeforeSung z = Made.plain(8, 6);
+                for (int s = 0; s < 6; s++) {
+                    y.knows(s + 1, s, 0);
+                    z.knows(s + 1, s, 0);
+                    y.mark(s, 2, s == alone ? 0 : state);
+                    z.mark(s, 2, s == alone ? state : 0);
+                }
+                for (int s = 0; s < 6; s++) {
+                    due.be("new is " + alone + " alone: " + s, y.last(s), s == alone ? 2 << s : -1);
+                    due.be("new are all but " + alone + ": " + s, z.last(s), s == alone ? -1 : 2 << s);
+                }
+            }
+        }
     }
 
     private static void finderNow(Due due) {
@@ -390,6 +406,14 @@ final class OutlookSentences {
         y.knows(1, 0, 0);
         y.seat(1, 2, 1);
         due.be("by the teller and by the child: the first", y.keep(0), 1);
+        // The teller 1 forgets it in YEAR 5, the child BESIDE him in YEAR 6; 0 sits alone.
+        LostBeforeSung z = Made.plain(2, 1);
+        z.person(5, 0, 2, 0);
+        z.give(1, 0, 4);
+        z.knows(1, 0, 0);
+        z.seat(1, 2, 1);
+        due.be("a YEAR sooner is sooner", z.lostIn(0), 6);
+        due.be("a YEAR sooner is sooner", z.keep(0), 1);
     }
 
     /** A worker of HOLD 18 less WORK, who has it for 0 years. */
@@ -554,6 +578,29 @@ final class OutlookSentences {
         y.give(0, 2, 1);
         y.knows(0, 0, 0);
         due.be("both HUM already", y.hummer(0), 0);
+        for (int havers = 1; havers < 256; havers++) {
+            for (int state = 0; state < 3; state++) {
+                due.be("who HAVE it: " + havers, hadAmongOthers(havers, 5, state).hummer(5),
+                    Integer.numberOfTrailingZeros(havers));
+                due.be("who HAVE it: " + havers, hadAmongOthers(havers, 2, state).hummer(2),
+                    Integer.numberOfTrailingZeros(havers));
+            }
+        }
+    }
+
+    /** These HAVE the song of that number and STATE; each of the others is had by every third of the PEOPLE. */
+    private static LostBeforeSung hadAmongOthers(int havers, int song, int state) {
+        LostBeforeSung x = Made.plain(8, 6);
+        x.mark(song, 2, state);
+        for (int p = 0; p < 8; p++) {
+            x.give(p, 0, p * 3 % 10);
+            x.give(p, 2, p == 7 ? 1 : 0);
+            for (int s = 0; s < 6; s++) {
+                boolean has = s == song ? (havers >> p & 1) == 1 : (p + s) % 3 == 0;
+                x.knows(p, s, has ? 0 : -1);
+            }
+        }
+        return x;
     }
 
     private static void hummerNone(Due due) {

@@ -436,6 +436,22 @@ final class ShelfSentences {
             x.give(7, 0, 0);
             due.be("0 at least, KIND " + kind, x.says(7, kind), kind == 4 ? 5 : 0);
         }
+        saysOfEach(due);
+    }
+
+    /** Whichever SHELF he is on, and whoever: children of MEMORY 0, 1, .. have HOLD 0, 2, .. */
+    private static void saysOfEach(Due due) {
+        LostBeforeSung x = new LostBeforeSung();
+        for (int p = 0; p < 8; p++) {
+            x.person(5, 9, p, 0);
+        }
+        for (int s = 0; s < 8; s++) {
+            for (int p = 0; p < 8; p++) {
+                x.show(s, p);
+                due.be(p + " on " + s + ", his MEMORY", x.says(s, 0), p);
+                due.be(p + " on " + s + ", his HOLD", x.says(s, 5), 2 * p);
+            }
+        }
     }
 
     private static void saysBad(Due due) {
